@@ -295,6 +295,7 @@ public final class FaultsTest {
 
     private static void wrongFrames() {
         wrongFrameByte("7", 0, 7);
+        wrongFrameByte("9", 0, 9);
         wrongFrameByte("12", 0, 12);
         wrongFrameByte("HEIGHT 65", 2, 65);
         wrongFrameByte("HEIGHT 272", 1, 1);

@@ -142,6 +142,12 @@ public final class InputTest {
         x.wipe();
         FileMaker.begun().frame(192, 16, 17, 9).scan(0, 63, 0, 9).put(1).end().giveTo(x);
         due.is("nor do its tables", x.read(), 8);
+        x.wipe();
+        FileMaker.withTables().frame(192, 0, 17, 9).scan(0, 63, 0, 9).end().giveTo(x);
+        due.is("LINES must be there", x.read(), 4);
+        x.wipe();
+        small().giveTo(x);
+        due.is("nor does a wait for LINES", x.read(), 0);
     }
 
     private static void faultForgets() {
