@@ -421,7 +421,7 @@ public final class SegmentReader {
      * Picture then is cleared at the end.
      */
     private static final class Parser {
-        private static final int ALL_BYTES = 255;
+        private static final int HIGHEST_BYTE = 255;
 
         private final Bytes input;
         private final Picture picture;
@@ -618,8 +618,8 @@ public final class SegmentReader {
         }
 
         private int takePair(int low, int high) {
-            int upper = take(0, ALL_BYTES);
-            int lower = take(0, ALL_BYTES);
+            int upper = take(0, HIGHEST_BYTE);
+            int lower = take(0, HIGHEST_BYTE);
             int value = 256 * upper + lower;
             if (value < low || value > high) {
                 refuseTaken();
@@ -658,7 +658,7 @@ public final class SegmentReader {
                 }
                 int counts = place;
                 int total = takeCounts();
-                takeSymbols(total, table < 16 ? 11 : ALL_BYTES);
+                takeSymbols(total, table < 16 ? 11 : HIGHEST_BYTE);
                 picture.setWords(table, counts);
                 more = moreContents();
             }
@@ -668,7 +668,7 @@ public final class SegmentReader {
             int total = 0;
             int behindLast = 0;
             for (int length = 1; length <= LENGTHS; length++) {
-                int count = take(0, ALL_BYTES);
+                int count = take(0, HIGHEST_BYTE);
                 total += count;
                 // The words of one length end below behindLast, and all 1s is 2^length - 1.
                 behindLast = 2 * behindLast + count;
@@ -710,11 +710,11 @@ public final class SegmentReader {
         }
 
         private void readComponent() {
-            int name = take(0, ALL_BYTES);
+            int name = take(0, HIGHEST_BYTE);
             if (picture.placeOfName(name) != NONE) {
                 refuseTaken();
             }
-            int factors = take(0, ALL_BYTES);
+            int factors = take(0, HIGHEST_BYTE);
             int h = factors >> 4;
             int v = factors & 15;
             if (h < 1 || h > 2 || v < 1 || v > 2) {
@@ -734,7 +734,7 @@ public final class SegmentReader {
             } else {
                 scan.first = take(0, scan.count == 1 ? 63 : 0);
                 scan.last = take(scan.first, scan.first == 0 ? 0 : 63);
-                takeBits(ALL_BYTES);
+                takeBits(HIGHEST_BYTE);
             }
             checkSent();
             checkTables();
@@ -745,7 +745,7 @@ public final class SegmentReader {
             int latest = NONE;
             int sum = 0;
             for (int k = 0; k < scan.count && k < COMPONENTS; k++) {
-                int c = picture.placeOfName(take(0, ALL_BYTES));
+                int c = picture.placeOfName(take(0, HIGHEST_BYTE));
                 if (c <= latest) {
                     fail(WRONG_COMPONENT, place - 1);
                 }
