@@ -23,7 +23,10 @@ public final class FaceTest {
     };
 
     public static void main(String[] args) {
-        Due due = new Due();
+        Sentences.run(FaceTest.class);
+    }
+
+    private static TreeSet<String> members() {
         TreeSet<String> seen = new TreeSet<>();
         for (Method method : SegmentReader.class.getDeclaredMethods()) {
             note(seen, method.getModifiers(), method.toString());
@@ -34,19 +37,34 @@ public final class FaceTest {
         for (Constructor<?> constructor : SegmentReader.class.getDeclaredConstructors()) {
             note(seen, constructor.getModifiers(), constructor.toString());
         }
-        for (String member : FACE) {
-            due.is(member, seen.remove(member), true);
-        }
-        due.is("members beside the face " + seen, seen.size(), 0);
-        int modifiers = SegmentReader.class.getModifiers();
-        due.is("public final", Modifier.isPublic(modifiers) && Modifier.isFinal(modifiers), true);
-        due.is("NONE", SegmentReader.NONE, -1);
-        due.end();
+        return seen;
     }
 
     private static void note(TreeSet<String> seen, int modifiers, String member) {
         if (!Modifier.isPrivate(modifiers)) {
             seen.add(member);
         }
+    }
+
+    @Holds(under = "The public face", words = "public final class SegmentReader")
+    static void theClassIsPublicAndFinal(Due due) {
+        int modifiers = SegmentReader.class.getModifiers();
+        due.is("public", Modifier.isPublic(modifiers), true);
+        due.is("final", Modifier.isFinal(modifiers), true);
+    }
+
+    @Holds(under = "The public face", words = "public SegmentReader(); public boolean give(long v, int n);")
+    static void eachMemberIsThereAndNoOther(Due due) {
+        TreeSet<String> seen = members();
+        for (String member : FACE) {
+            due.is(member, seen.remove(member), true);
+        }
+        due.is("members beside the face " + seen, seen.size(), 0);
+    }
+
+    @Holds(under = "Terms", words = "The constants: `NONE = -1`: There is none.")
+    static void noneIsMinus1(Due due) {
+        due.is("NONE", SegmentReader.NONE, -1);
+        due.is("what is not there", new SegmentReader().frame(0), SegmentReader.NONE);
     }
 }

@@ -1,4 +1,5 @@
 import java.io.ByteArrayOutputStream;
+import java.util.Arrays;
 
 /** Writes the bytes of a file, right or wrong. */
 final class FileMaker {
@@ -14,10 +15,35 @@ final class FileMaker {
         return begun().quantisers(0, 1).words(0, 1).words(16, 1);
     }
 
+    /** A file of one component of the name 1 up to its FRAME. */
+    static FileMaker framed(int code) {
+        return withTables().frame(code, 16, 0x11, 1);
+    }
+
+    /** A sequential file up to the bytes of its only SCAN's DATA. */
+    static FileMaker scanned() {
+        return framed(192).scan(0, 63, 0, 1);
+    }
+
     static FileMaker of(byte[] all) {
         FileMaker made = new FileMaker();
         made.bytes.write(all, 0, all.length);
         return made;
+    }
+
+    FileMaker copy() {
+        return of(made());
+    }
+
+    /** What stands ahead of that place. */
+    FileMaker cut(int place) {
+        return of(Arrays.copyOf(made(), place));
+    }
+
+    FileMaker append(FileMaker more) {
+        byte[] all = more.made();
+        bytes.write(all, 0, all.length);
+        return this;
     }
 
     FileMaker put(int... values) {
@@ -74,7 +100,7 @@ final class FileMaker {
     }
 
     static int[] joined(int[] head, int... tail) {
-        int[] all = java.util.Arrays.copyOf(head, head.length + tail.length);
+        int[] all = Arrays.copyOf(head, head.length + tail.length);
         System.arraycopy(tail, 0, all, head.length, tail.length);
         return all;
     }

@@ -4,20 +4,42 @@ import java.util.Random;
 public final class OracleTest {
     private static final int CALLS = 512;
     private static final int DRAWN = 60000;
-    private static final Due due = new Due();
-    private static final int[] found = new int[9];
+    private static final String READ = "The INPUT is read: 0 if it is a FILE, else the fault";
 
+    private static Due due;
     private static byte[] bytes;
     private static SegmentReader reader;
     private static int calls;
 
     public static void main(String[] args) {
-        byte[][] whole = {sequential(), progressive(), lines(), tables()};
-        for (byte[] file : whole) {
+        Sentences.run(OracleTest.class);
+    }
+
+    private static byte[][] whole() {
+        return new byte[][] {sequential(), progressive(), lines(), tables()};
+    }
+
+    @Holds(under = "Promise 4: read", words = READ)
+    static void filesThatAreRightAreToldAsByTheOracle(Due counter) {
+        due = counter;
+        for (byte[] file : whole()) {
             due.is("right", compare(file, 1), 0);
+        }
+    }
+
+    @Holds(under = "Promise 4: read", words = READ)
+    static void filesWithOneByteBrokenAreToldAsByTheOracle(Due counter) {
+        due = counter;
+        for (byte[] file : whole()) {
             eachByteBroken(file);
         }
+    }
+
+    @Holds(under = "Promise 4: read", words = READ)
+    static void filesBrokenAtDrawnPlacesAreToldAsByTheOracle(Due counter) {
+        due = counter;
         Random random = new Random(20261115L);
+        byte[][] whole = whole();
         for (int turn = 0; turn < DRAWN; turn++) {
             byte[] file = whole[random.nextInt(whole.length)].clone();
             int changes = 1 + random.nextInt(3);
@@ -26,20 +48,25 @@ public final class OracleTest {
             }
             compare(file, 97);
         }
-        Files files = new Files(random);
+    }
+
+    @Holds(under = "Promise 4: read", words = READ)
+    static void drawnFilesAreToldAsByTheOracle(Due counter) {
+        due = counter;
+        int[] found = new int[9];
+        Files files = new Files(new Random(20261116L));
         for (int turn = 0; turn < DRAWN; turn++) {
-            compare(files.draw(), 13);
+            found[compare(files.draw(), 13)]++;
         }
-        for (int number = 0; number < found.length; number++) {
-            due.is("files with fault " + number, found[number] > 100, true);
+        for (int number : new int[] {0, 4, 6, 7, 8}) {
+            due.is("many files of fault " + number, found[number] > 100, true);
         }
-        due.end();
     }
 
     /** A new object with the file read, so that no object is asked more often than the document allows. */
     private static void anew() {
         reader = FileMaker.of(bytes).given();
-        calls = (bytes.length + 7) / 8 + 1;
+        calls = (bytes.length + 7) / 8 + 2;
         due.is("read", reader.read(), reader.look(1));
     }
 
@@ -67,7 +94,6 @@ public final class OracleTest {
         for (int which = -1; which < 8; which++) {
             due.is("look", asked().look(which), oracle.look(which));
         }
-        found[oracle.fault]++;
         for (int i = 0; i <= oracle.segments.size(); i++) {
             for (int w = -1; w < 5; w++) {
                 due.is("segment", asked().segment(i, w), oracle.segment(i, w));

@@ -1,0 +1,13 @@
+import java.lang.annotation.ElementType;
+import java.lang.annotation.Retention;
+import java.lang.annotation.RetentionPolicy;
+import java.lang.annotation.Target;
+
+/** The sentence of the document that a test holds: the heading that it stands under, and its words. */
+@Retention(RetentionPolicy.RUNTIME)
+@Target(ElementType.METHOD)
+@interface Holds {
+    String under();
+
+    String words();
+}
