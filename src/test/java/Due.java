@@ -78,6 +78,22 @@ final class Due {
         }
     }
 
+    /** No call tells anything but how many bytes the INPUT has. */
+    void nothingRead(String when, SegmentReader x, int bytes) {
+        int[] got = State.of(x);
+        for (int i = 0; i < got.length; i++) {
+            is(when + ": " + State.call(i), got[i], State.withNothingRead(i, bytes));
+        }
+    }
+
+    /** NONE for each number below the bound, and for those far off. */
+    void none(String call, IntUnaryOperator ask, int bound) {
+        for (int n = 0; n < bound; n++) {
+            is(call + " of " + n, ask.applyAsInt(n), -1);
+        }
+        far(call, ask);
+    }
+
     int asked() {
         return asked;
     }

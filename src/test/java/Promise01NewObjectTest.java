@@ -17,8 +17,9 @@ public final class Promise01NewObjectTest {
     @Holds(under = PROMISE, words = "nothing read.")
     static void nothingIsReadInANewObject(Due due) {
         SegmentReader first = new SegmentReader();
-        due.part("look", first::look, 0, 0, -1, 0, 0, 0, -1, -1);
-        due.row("frame", first::frame);
+        due.nothingRead("new", first, 0);
+        due.row("look", first::look, 0, 0, -1, 0, 0, 0, -1);
+        due.none("frame", first::frame, 7);
         for (int n = -1; n < 20; n++) {
             SegmentReader x = new SegmentReader();
             int w = n;

@@ -124,7 +124,7 @@ public final class Promise02GiveTest {
         FileMaker file = FileMaker.scanned().put(1, 2).segment(221, 0, 3).end();
         SegmentReader x = due.right("read", file);
         due.is("give", x.give(0L, 1), true);
-        due.same("given behind", x, file.put(0).given());
+        due.nothingRead("given behind", x, file.size() + 1);
         due.is("and it can be read again", x.read(), 0);
         due.is("look(6)", x.look(6), x.look(0) - 1);
     }
@@ -135,7 +135,7 @@ public final class Promise02GiveTest {
         SegmentReader x = file.given();
         due.is("read()", x.read(), 1);
         due.is("give", x.give(0xFFL, 1), true);
-        due.same("given behind", x, file.put(255).given());
+        due.nothingRead("given behind", x, file.size() + 1);
         due.is("look(1)", x.look(1), 0);
         due.is("look(2)", x.look(2), -1);
         due.is("give", x.give(0xD9L, 1), true);

@@ -31,7 +31,7 @@ public final class Promise03WipeTest {
     static void anEmptyInputStaysEmpty(Due due) {
         SegmentReader x = new SegmentReader();
         x.wipe();
-        due.same("wiped at first", x, new SegmentReader());
+        due.nothingRead("wiped at first", x, 0);
         x.wipe();
         due.is("wiped again", x.look(0), 0);
         due.is("give", x.give(7L, 1), true);
@@ -43,7 +43,7 @@ public final class Promise03WipeTest {
     static void aFileThatWasReadIsForgotten(Due due) {
         SegmentReader x = due.right("read", FileMaker.scanned().put(1).segment(221, 0, 3).end());
         x.wipe();
-        due.same("wiped", x, new SegmentReader());
+        due.nothingRead("wiped", x, 0);
     }
 
     @Holds(under = PROMISE, words = "all is as ahead of any read().")
@@ -51,7 +51,7 @@ public final class Promise03WipeTest {
         SegmentReader x = FileMaker.scanned().put(1).given();
         due.is("read()", x.read(), 1);
         x.wipe();
-        due.same("wiped", x, new SegmentReader());
+        due.nothingRead("wiped", x, 0);
         due.is("look(1)", x.look(1), 0);
         due.is("look(2)", x.look(2), -1);
     }
@@ -67,6 +67,20 @@ public final class Promise03WipeTest {
             .frame(192, 16, 0x11, 1).scan(0, 63, 0, 1).end(), 8);
         nothingIsLeft(due, "no SCAN", right, FileMaker.framed(192).end(), 4);
         nothingIsLeft(due, "no INTERVAL", right, FileMaker.scanned().put(255, 208).end(), 4);
+    }
+
+    @Holds(under = PROMISE, words = "all is as ahead of any read().")
+    static void nothingOfALargerFileIsLeftForASmallerOne(Due due) {
+        FileMaker large = FileMaker.withTables();
+        for (int table = 1; table < 4; table++) {
+            large.quantisers(table, 99).words(table, 3).words(16 + table, 3);
+        }
+        large.segment(221, 1, 1).frame(192, 0, 0x22, 7, 8, 9, 10).scan(0, 63, 0, 7, 8).put(1, 255, 208, 2, 3)
+            .segment(220, 0, 64).scan(0, 63, 0, 9, 10).put(4, 5, 255, 208, 255, 209).segment(254, 1, 2).end();
+        due.right("the larger one", large);
+        nothingIsLeft(due, "sequential", large, FileMaker.scanned().put(9).end(), 0);
+        nothingIsLeft(due, "progressive", large, FileMaker.framed(194).scan(0, 0, 1, 1).end(), 0);
+        nothingIsLeft(due, "broken", large, FileMaker.scanned().put(9), 1);
     }
 
     @Holds(under = PROMISE, words = "all is as ahead of any read().")

@@ -95,25 +95,27 @@ public final class Promise05SegmentTest {
     @Holds(under = PROMISE, words = "NONE if there is none such")
     static void thereIsNoneAheadOfReadAndBehindAFault(Due due) {
         SegmentReader x = FileMaker.scanned().given();
-        due.row("segment(i, 0)", i -> x.segment(i, 0));
+        due.none("segment(i, 0)", i -> x.segment(i, 0), 6);
+        due.none("segment(0, w)", w -> x.segment(0, w), 5);
         due.is("read()", x.read(), 1);
-        due.row("segment(i, 0)", i -> x.segment(i, 0));
+        due.none("segment(i, 0)", i -> x.segment(i, 0), 6);
+        due.none("segment(0, w)", w -> x.segment(0, w), 5);
     }
 
     @Holds(under = PROMISE, words = "Of SEGMENT i that was read (whole), from 0 on")
-    static void nineHundredSegmentsAreTold(Due due) {
+    static void asManySegmentsAsCanBeGivenAreTold(Due due) {
         FileMaker made = FileMaker.begun();
-        for (int i = 0; i < 900; i++) {
+        for (int i = 0; i < 960; i++) {
             made.segment(224 + i % 16);
         }
-        SegmentReader x = due.right("read", made.quantisers(0, 1).words(0, 1).words(16, 1)
-            .frame(192, 16, 0x11, 1).scan(0, 63, 0, 1).end());
-        due.is("look(3)", x.look(3), 905);
-        told(due, x, 0, 224, 2, 6, 0);
-        told(due, x, 15, 239, 62, 66, 0);
-        told(due, x, 16, 224, 66, 70, 0);
-        told(due, x, 899, 227, 3598, 3602, 0);
-        due.is("the last one", x.segment(904, 0), 218);
-        due.is("none more", x.segment(905, 0), -1);
+        made.quantisers(0, 1).words(0, 1).words(16, 1).frame(192, 16, 0x11, 1).scan(0, 63, 0, 1).end();
+        SegmentReader x = due.right("read", made);
+        due.is("look(3)", x.look(3), 965);
+        told(due, x, 959, 239, 3838, 3842, 0);
+        due.is("the last one", x.segment(964, 0), 218);
+        due.is("none more", x.segment(965, 0), -1);
+        SegmentReader y = due.right("read", made);
+        told(due, y, 15, 239, 62, 66, 0);
+        told(due, y, 900, 228, 3602, 3606, 0);
     }
 }

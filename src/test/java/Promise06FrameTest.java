@@ -92,9 +92,10 @@ public final class Promise06FrameTest {
     @Holds(under = PROMISE, words = "NONE if there is none")
     static void thereIsNoneAheadOfReadAndBehindAFault(Due due) {
         SegmentReader x = FileMaker.scanned().given();
-        due.row("frame", x::frame);
+        due.none("frame", x::frame, 7);
         due.is("read()", x.read(), 1);
-        due.row("frame", x::frame);
+        due.none("frame", x::frame, 7);
+        due.none("frame of a new object", new SegmentReader()::frame, 7);
     }
 
     @Holds(under = PROMISE, words = "or no such w.")

@@ -55,9 +55,11 @@ public final class Promise07ComponentTest {
     @Holds(under = PROMISE, words = "NONE if there is none such")
     static void thereIsNoneAheadOfReadAndBehindAFault(Due due) {
         SegmentReader x = FileMaker.scanned().given();
-        due.row("component(c, 0)", c -> x.component(c, 0));
+        due.none("component(c, 0)", c -> x.component(c, 0), 5);
+        due.none("component(0, w)", w -> x.component(0, w), 5);
         due.is("read()", x.read(), 1);
-        due.row("component(c, 0)", c -> x.component(c, 0));
+        due.none("component(c, 0)", c -> x.component(c, 0), 5);
+        due.none("component(0, w)", w -> x.component(0, w), 5);
     }
 
     @Holds(under = PROMISE, words = "or no such w.")

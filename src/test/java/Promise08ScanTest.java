@@ -81,17 +81,16 @@ public final class Promise08ScanTest {
     }
 
     @Holds(under = PROMISE, words = "7: RESTARTS")
-    static void aThousandRestartsAreCounted(Due due) {
+    static void asManyRestartsAsCanBeGivenAreCounted(Due due) {
         FileMaker made = withInterval(1).scan(0, 63, 0, 1, 2);
-        for (int i = 0; i < 1000; i++) {
-            made.put(i % 251).put(255, 208 + i % 8);
+        for (int i = 0; i < 1900; i++) {
+            made.put(255, 208 + i % 8);
         }
         SegmentReader x = due.right("read", made.put(99).end());
-        due.is("scan(0, 7)", x.scan(0, 7), 1000);
-        due.is("scan(0, 6)", x.scan(0, 6), 3001);
-        due.is("data(0, 999)", x.data(0, 999), 999 % 251);
-        due.is("data(0, 1000)", x.data(0, 1000), 99);
-        due.is("data(0, 1001)", x.data(0, 1001), -1);
+        due.is("scan(0, 7)", x.scan(0, 7), 1900);
+        due.is("scan(0, 6)", x.scan(0, 6), 3801);
+        due.is("data(0, 0)", x.data(0, 0), 99);
+        due.is("data(0, 1)", x.data(0, 1), -1);
     }
 
     @Holds(under = PROMISE, words = "8: the INTERVAL")
@@ -166,30 +165,30 @@ public final class Promise08ScanTest {
     @Holds(under = PROMISE, words = "NONE if there is none such")
     static void thereIsNoneAheadOfReadAndBehindAFault(Due due) {
         SegmentReader x = FileMaker.scanned().put(1).given();
-        due.row("scan(i, 0)", i -> x.scan(i, 0));
+        due.none("scan(i, 0)", i -> x.scan(i, 0), 3);
+        due.none("scan(0, w)", w -> x.scan(0, w), 40);
         due.is("read()", x.read(), 1);
-        due.row("scan(i, 0)", i -> x.scan(i, 0));
-        due.is("scan(0, 16)", x.scan(0, 16), -1);
+        due.none("scan(i, 0)", i -> x.scan(i, 0), 3);
+        due.none("scan(0, w)", w -> x.scan(0, w), 40);
     }
 
     @Holds(under = PROMISE, words = "Of SCAN i that was read (with its DATA), from 0 on")
-    static void threeHundredScansAreTold(Due due) {
+    static void asManyScansAsCanBeGivenAreTold(Due due) {
         FileMaker made = FileMaker.framed(194).scan(0, 0, 0, 1);
-        int scans = 1;
-        for (int k = 1; scans < 300; k++) {
+        for (int k = 1; k <= 27; k++) {
             made.scan(k, k, 13, 1);
-            scans++;
-            for (int bits = 12; bits >= 0 && scans < 300; bits--) {
+            for (int bits = 12; bits >= 0; bits--) {
                 made.scan(k, k, 16 * (bits + 1) + bits, 1);
-                scans++;
             }
         }
         int end = made.size();
-        SegmentReader x = due.right("read", made.end());
-        due.is("look(4)", x.look(4), 300);
-        due.part("scan(14, w)", w -> x.scan(14, w), 1, 1, 1, 1, 0);
-        due.part("scan(15, w)", w -> x.scan(15, w), 1, 2, 2, 0, 13);
-        due.part("scan(299, w)", w -> x.scan(299, w), 1, 22, 22, 10, 9, end, 0, 0, 0);
-        due.is("scan(300, 0)", x.scan(300, 0), -1);
+        made.end();
+        SegmentReader x = due.right("read", made);
+        due.is("look(4)", x.look(4), 379);
+        due.part("scan(378, w)", w -> x.scan(378, w), 1, 27, 27, 1, 0, end, 0, 0, 0);
+        due.is("scan(379, 0)", x.scan(379, 0), -1);
+        SegmentReader y = due.right("read", made);
+        due.part("scan(14, w)", w -> y.scan(14, w), 1, 1, 1, 1, 0);
+        due.part("scan(15, w)", w -> y.scan(15, w), 1, 2, 2, 0, 13);
     }
 }

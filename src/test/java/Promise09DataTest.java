@@ -66,9 +66,9 @@ public final class Promise09DataTest {
     @Holds(under = PROMISE, words = "NONE if there is none.")
     static void thereIsNoneAheadOfReadAndBehindAFault(Due due) {
         SegmentReader x = FileMaker.scanned().put(1, 2).given();
-        due.row("data(0, k)", k -> x.data(0, k));
+        due.none("data(0, k)", k -> x.data(0, k), 3);
         due.is("read()", x.read(), 1);
-        due.row("data(0, k)", k -> x.data(0, k));
+        due.none("data(0, k)", k -> x.data(0, k), 3);
     }
 
     @Holds(under = PROMISE, words = "Byte k of the DATA of SCAN i")

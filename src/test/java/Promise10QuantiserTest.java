@@ -90,8 +90,10 @@ public final class Promise10QuantiserTest {
     @Holds(under = PROMISE, words = "NONE if there is none such.")
     static void thereIsNoneAheadOfReadAndBehindAFault(Due due) {
         SegmentReader x = FileMaker.scanned().given();
-        due.row("quantiser(table, 0)", table -> x.quantiser(table, 0));
+        due.none("quantiser(table, 0)", table -> x.quantiser(table, 0), 5);
+        due.none("quantiser(0, k)", k -> x.quantiser(0, k), 65);
         due.is("read()", x.read(), 1);
-        due.row("quantiser(table, 0)", table -> x.quantiser(table, 0));
+        due.none("quantiser(table, 0)", table -> x.quantiser(table, 0), 5);
+        due.none("quantiser(0, k)", k -> x.quantiser(0, k), 65);
     }
 }

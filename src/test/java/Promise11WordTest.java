@@ -88,6 +88,21 @@ public final class Promise11WordTest {
     }
 
     @Holds(under = PROMISE, words = "1: symbol i, from 0 on.")
+    static void theSymbolsOfWordsOfEachLengthAreTold(Due due) {
+        for (int length = 1; length <= 16; length++) {
+            int[] counts = new int[16];
+            counts[length - 1] = 1;
+            SegmentReader x = with(due, FileMaker.joined(FileMaker.counts(2, counts), 5),
+                FileMaker.joined(FileMaker.counts(18, counts), 200));
+            symbols(due, x, 2, 5);
+            symbols(due, x, 18, 200);
+        }
+        int[] ones = {1, 1, 1, 1, 1, 1, 1, 1, 1, 1, 1, 1, 1, 1, 1, 1};
+        int[] sixteen = Arrays.copyOf(downFrom255(), 16);
+        symbols(due, with(due, FileMaker.joined(FileMaker.counts(17, ones), sixteen)), 17, sixteen);
+    }
+
+    @Holds(under = PROMISE, words = "1: symbol i, from 0 on.")
     static void twoHundredFiftySixSymbolsAreTold(Due due) {
         SegmentReader x = with(due, FileMaker.joined(FileMaker.counts(19, 0, 0, 0, 0, 0, 0, 0, 0, 255, 1), downFrom255()));
         symbols(due, x, 19, downFrom255());
@@ -137,10 +152,10 @@ public final class Promise11WordTest {
     @Holds(under = PROMISE, words = "NONE if there is none such.")
     static void thereIsNoneAheadOfReadAndBehindAFault(Due due) {
         SegmentReader x = FileMaker.scanned().given();
-        due.row("word(table, 0, 2)", table -> x.word(table, 0, 2));
-        due.is("word(16, 1, 0)", x.word(16, 1, 0), -1);
+        due.none("word(table, 0, 2)", table -> x.word(table, 0, 2), 20);
+        due.none("word(table, 1, 0)", table -> x.word(table, 1, 0), 20);
         due.is("read()", x.read(), 1);
-        due.row("word(table, 0, 2)", table -> x.word(table, 0, 2));
-        due.is("word(16, 1, 0)", x.word(16, 1, 0), -1);
+        due.none("word(table, 0, 2)", table -> x.word(table, 0, 2), 20);
+        due.none("word(table, 1, 0)", table -> x.word(table, 1, 0), 20);
     }
 }

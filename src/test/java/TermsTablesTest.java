@@ -40,7 +40,7 @@ public final class TermsTablesTest {
         due.fault("none", FileMaker.begun().segment(219), 5, 4);
         right(due, "one", FileMaker.begun().quantisers(1, 1));
         int[] all = {};
-        for (int i = 0; i < 30; i++) {
+        for (int i = 0; i < 58; i++) {
             all = FileMaker.joined(all, FileMaker.quantiserTable(i % 4, 1 + i));
             SegmentReader x = right(due, i + 1 + " tables", FileMaker.begun().segment(219, all));
             due.is("the last one", x.quantiser(i % 4, 1), i % 4 == 0 ? 2 : i + 2);
@@ -104,7 +104,7 @@ public final class TermsTablesTest {
         right(due, "one", FileMaker.begun().words(1, 1));
         int[] all = {};
         int[] tables = {0, 1, 2, 3, 16, 17, 18, 19};
-        for (int i = 0; i < 40; i++) {
+        for (int i = 0; i < 200; i++) {
             int table = tables[i % 8];
             all = FileMaker.joined(all, FileMaker.joined(FileMaker.counts(table, 0, 1), i % 12));
             SegmentReader x = right(due, i + 1 + " tables", FileMaker.begun().segment(196, all));
